@@ -83,7 +83,7 @@ public final class FlameBend {
             return FULL;
         }
         orders.moveInto(work);
-        welds.known = false;
+        workChanged();
         return work.count;
     }
 
@@ -92,7 +92,7 @@ public final class FlameBend {
             return OUTSIDE;
         }
         work.count -= n;
-        welds.known = false;
+        workChanged();
         return work.count;
     }
 
@@ -384,8 +384,10 @@ public final class FlameBend {
         if (i < -1 || i >= work.count) {
             return NONE;
         }
-        int greatest = smiths.share(work, n);
-        return i == -1 ? greatest : smiths.smithOf[i];
+        if (smiths.knownFor != n) {
+            smiths.share(work, n);
+        }
+        return i == -1 ? smiths.greatest : smiths.smithOf[i];
     }
 
     public int told(int what) {
@@ -406,6 +408,11 @@ public final class FlameBend {
     }
 
     // ---- helpers of the calls
+
+    private void workChanged() {
+        welds.known = false;
+        smiths.knownFor = 0;
+    }
 
     private void shapeOfWork() {
         shape.becomeOf(work, work.count, rules);
@@ -1035,12 +1042,16 @@ public final class FlameBend {
     /** Shares the PASSES of THE WORK among SMITHS. */
     private static final class Smiths {
         final int[] smithOf = new int[MOST_PASSES];
+        int greatest;
+        /** Among how many SMITHS that sharing is; whoever changes THE WORK makes this 0. */
+        int knownFor;
         private final int[] times = new int[MOST_PASSES];
         private final int[] sums = new int[MOST_SMITHS];
         private int count;
 
-        /** The least greatest sum; smithOf then tells the first sharing that has it. */
-        int share(Passes work, int n) {
+        /** Finds the least greatest sum, and the first sharing that has it. */
+        void share(Passes work, int n) {
+            int smiths = Math.max(1, Math.min(n, MOST_SMITHS));
             count = Math.min(work.count, MOST_PASSES);
             int total = 0;
             int longest = 0;
@@ -1049,17 +1060,16 @@ public final class FlameBend {
                 total += times[i];
                 longest = Math.max(longest, times[i]);
             }
-            int smiths = Math.max(1, Math.min(n, MOST_SMITHS));
-            int least = Math.max(longest, (total + smiths - 1) / smiths);
-            for (int most = least; most < total; most++) {
-                Arrays.fill(sums, 0);
-                if (fits(0, smiths, most)) {
-                    return most;
-                }
+            // No sum can be less than this; and one SMITH can always do all.
+            greatest = Math.max(longest, (total + smiths - 1) / smiths);
+            Arrays.fill(sums, 0);
+            while (greatest < total && !fits(0, smiths, greatest)) {
+                greatest++;
             }
-            // One SMITH can always do all.
-            Arrays.fill(smithOf, 0);
-            return total;
+            if (greatest >= total) {
+                Arrays.fill(smithOf, 0);
+            }
+            knownFor = n;
         }
 
         /** Whether the PASSES from one on can be shared so that no sum is above most. */

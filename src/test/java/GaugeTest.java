@@ -13,6 +13,7 @@ final class GaugeTest {
         test.bendsRead();
         test.bendsReadRefused();
         test.skills();
+        test.skillOfEachLine();
         test.skillsRefused();
         test.attempts();
         test.attemptsRefused();
@@ -213,6 +214,13 @@ final class GaugeTest {
         }
         x.read(2, 1);
         checks.due("25 now", x.bendRead(0, 0), 0);
+        x.read(3, 1);
+        x.forget(0);
+        checks.due("25 one side is not READ", x.bendRead(0, 0), -2000000003);
+        checks.due("25 the next LINE", x.bendRead(1, 0), 0);
+        x.forget(3);
+        x.read(0, 1);
+        checks.due("25 the other side is not READ", x.bendRead(1, 0), -2000000003);
         x.forget(1);
         checks.due("25 at it is not READ", x.bendRead(0, 0), -2000000003);
     }
@@ -251,6 +259,18 @@ final class GaugeTest {
         x.read(9, -50);
         x.read(15, 0);
         skillOf(x, -289, 354);
+    }
+
+    private void skillOfEachLine() {
+        for (int line = 0; line < 8; line++) {
+            FlameBend x = Checks.working((line < 4 ? "v" : "h") + (line % 4 + 1) + "3");
+            int side = line < 4 ? 1 : 6;
+            int corner = (line % 4 + 1) * side;
+            x.read(corner - side, 20);
+            x.read(corner, 0);
+            x.read(corner + side, 1);
+            skillOf(x, 7, 10);
+        }
     }
 
     private void skillsRefused() {
@@ -351,5 +371,10 @@ final class GaugeTest {
             x.attempt(strength, 1, 0);
         }
         checks.due("29 the last", x.widest(), 9);
+        FlameBend y = new FlameBend();
+        for (int strength = 1; strength <= 9; strength++) {
+            y.attempt(strength, 500, strength == 7 ? 120 : 110);
+        }
+        checks.due("29 upper less lower", y.widest(), 7);
     }
 }

@@ -14,6 +14,8 @@ final class ItemTest {
         test.nextStep();
         test.stepsDone();
         test.beyondTwelve();
+        test.betterByOne();
+        test.allTen();
         test.checks.end("ItemTest");
     }
 
@@ -185,6 +187,45 @@ final class ItemTest {
         }
         checks.due("20 WORK stays", x.told(1), 0);
         checks.due("20 BENDS stay", x.bend(3), 0);
+    }
+
+    /** BENDS of 1 at column 1 and 2 at column 4 miss by 9, with 1 there by 5, with 0 there by 4. */
+    private void betterByOne() {
+        FlameBend x = Checks.working("v11;v42");
+        x.set(2, 0);
+        x.table(1, 0, 1);
+        x.table(2, 0, 2);
+        x.item(3, 1, false, true);
+        x.item(3, 2, false, true);
+        checks.due("14 miss by 9", x.worst(), 9);
+        checks.due("19 better by 1", x.next(0), 1);
+        checks.due("19 better by 1, WORST", x.next(1), 4);
+        checks.due("18 better by 1", x.chosen(8, 0), 2);
+        checks.due("18 better by 1, WORST", x.chosen(8, 1), 4);
+        checks.due("18 just that", x.chosen(4, 0), 2);
+        // both leave -1 there, which misses by 3
+        checks.due("18 both", x.chosen(3, 0), 3);
+        checks.due("18 none", x.chosen(2, 0), -5);
+        FlameBend y = Checks.working("v11;v41");
+        y.table(1, 0, 1);
+        y.set(2, 0);
+        y.item(3, 1, false, true);
+        checks.due("14 miss by 5", y.worst(), 5);
+        checks.due("19 lowered by 1", y.next(0), 0);
+        y.set(3, 2);
+        checks.due("19 lowered by less than 2", y.next(0), -6);
+    }
+
+    private void allTen() {
+        FlameBend x = new FlameBend();
+        x.set(2, 0);
+        for (int n = 0; n < 10; n++) {
+            x.item(3, 1, false, false);
+        }
+        wishFold(x, 100);
+        checks.due("18 all ten", x.chosen(0, 0), 1023);
+        checks.due("18 nine, the least as bits", x.chosen(40, 0), 511);
+        checks.due("18 five, the least as bits", x.chosen(200, 0), 31);
     }
 
     private void beyondTwelve() {

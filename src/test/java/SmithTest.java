@@ -66,7 +66,10 @@ final class SmithTest {
         Checks.take(x, "v13;v13;v13;v13;v13;v13");
         sharing(x, 3, 28, 0, 0, 0, 0, 1, 1, 1, 1, 2, 2, 2, 2);
         sharing(x, 2, 42, 0, 0, 0, 0, 0, 0, 1, 1, 1, 1, 1, 1);
-        x.strike(1);
+        x.strike(4);
+        sharing(x, 2, 28, 0, 0, 0, 0, 1, 1, 1, 1);
+        Checks.take(x, "v13;v13;v13");
+        sharing(x, 2, 42, 0, 0, 0, 0, 0, 0, 1, 1, 1, 1, 1);
         sharing(x, 3, 28, 0, 0, 0, 0, 1, 1, 1, 1, 2, 2, 2);
     }
 

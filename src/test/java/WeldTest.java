@@ -11,6 +11,7 @@ final class WeldTest {
         test.cut();
         test.ties();
         test.followsChanges();
+        test.betterByOne();
         test.seven();
         test.checks.end("WeldTest");
     }
@@ -124,6 +125,15 @@ final class WeldTest {
         bestOrder(x, 24, 0, 1);
         x.set(2, 100);
         bestOrder(x, 80, 0, 1);
+    }
+
+    /** A BEND of 1 at column 1 misses by 4, with 1 at column 4 by 5. */
+    private void betterByOne() {
+        FlameBend x = Checks.working("v11");
+        x.table(1, 0, 1);
+        x.weld(3, 1);
+        x.weld(7, 0);
+        bestOrder(x, 4, 1, 0);
     }
 
     private void seven() {

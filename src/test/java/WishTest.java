@@ -80,6 +80,9 @@ final class WishTest {
             z.wish(corner, -100000);
         }
         checks.due("14 the greatest wish", z.worst(), 2000000);
+        FlameBend both = Checks.working("v11;h11w");
+        // 10 and 14 (15 by 95 percent): at (1, 1) -40 and -56 come together
+        checks.due("14 both ways", both.worst(), 96);
         FlameBend last = new FlameBend();
         last.wish(35, -3);
         checks.due("14 last CORNER", last.worst(), 15);
