@@ -36,6 +36,13 @@ final class Checks {
         return x;
     }
 
+    /** Wishes what a BEND of so much at column 4 makes: the last column is so much higher. */
+    static void wishFold(FlameBend x, int v) {
+        for (int row = 0; row < 6; row++) {
+            x.wish(6 * row + 5, v);
+        }
+    }
+
     void end(String test) {
         System.out.println(test + ": " + done + " answers, " + wrong + " of them not as due");
         System.exit(wrong == 0 && done > 0 ? 0 : 1);

@@ -19,13 +19,6 @@ final class ItemTest {
         test.checks.end("ItemTest");
     }
 
-    /** Wishes a bend of so much at column 4: the last column is so much higher. */
-    private static void wishFold(FlameBend x, int v) {
-        for (int row = 0; row < 6; row++) {
-            x.wish(6 * row + 5, v);
-        }
-    }
-
     private void items() {
         FlameBend x = new FlameBend();
         for (int line : new int[] {-1, 8, LOW, HIGH}) {
@@ -46,13 +39,13 @@ final class ItemTest {
         FlameBend y = new FlameBend();
         y.item(3, 2, true, true);
         // -25 at column 4 misses a wish of -25 by nothing
-        wishFold(y, -25);
+        Checks.wishFold(y, -25);
         checks.due("17 water and back", y.next(1), 0);
     }
 
     private void chosenFewest() {
         FlameBend x = new FlameBend();
-        wishFold(x, 30);
+        Checks.wishFold(x, 30);
         checks.due("18 no ITEMS: the empty set", x.chosen(120, 0), 0);
         checks.due("18 its WORST", x.chosen(120, 1), 120);
         checks.due("18 no ITEMS: NO", x.chosen(119, 0), -5);
@@ -66,7 +59,7 @@ final class ItemTest {
         checks.due("18 one, the least WORST", x.chosen(100, 0), 8);
         checks.due("18 the empty set is fewest", x.chosen(120, 0), 0);
         checks.due("18 most of all", x.chosen(100000000, 0), 0);
-        wishFold(x, 24);
+        Checks.wishFold(x, 24);
         // 10 and 14 (20 by 70 percent) make 24
         checks.due("18 two", x.chosen(0, 0), 3);
         checks.due("18 two, WORST", x.chosen(0, 1), 0);
@@ -77,7 +70,7 @@ final class ItemTest {
 
     private void chosenTies() {
         FlameBend x = new FlameBend();
-        wishFold(x, 20);
+        Checks.wishFold(x, 20);
         x.item(3, 1, false, false);
         x.item(3, 3, false, false);
         x.item(3, 1, false, false);
@@ -92,12 +85,12 @@ final class ItemTest {
         x.item(3, 2, false, false);
         x.item(3, 4, false, false);
         // in order of numbers: 20 and 28 (40 by 70 percent), not 40 and 14
-        wishFold(x, 48);
+        Checks.wishFold(x, 48);
         checks.due("18 in order of numbers", x.chosen(0, 0), 3);
         Checks.take(x, "h11;h11b");
         x.set(2, 0);
         // two crossing PASSES that undo one another leave 90 percent: 18 and 36
-        wishFold(x, 54);
+        Checks.wishFold(x, 54);
         checks.due("18 behind THE WORK", x.chosen(0, 0), 3);
         checks.due("18 behind THE WORK, WORST", x.chosen(0, 1), 0);
     }
@@ -118,7 +111,7 @@ final class ItemTest {
 
     private void nexts() {
         FlameBend x = new FlameBend();
-        wishFold(x, 30);
+        Checks.wishFold(x, 30);
         checks.due("19 no ITEMS", x.next(0), -6);
         checks.due("19 no ITEMS, WORST", x.next(1), -6);
         x.item(3, 1, false, true);
@@ -146,7 +139,7 @@ final class ItemTest {
 
     private void nextStep() {
         FlameBend x = new FlameBend();
-        wishFold(x, 30);
+        Checks.wishFold(x, 30);
         x.item(3, 2, false, false);
         x.set(3, 80);
         checks.due("19 lowered by STEP", x.next(0), 0);
@@ -158,7 +151,7 @@ final class ItemTest {
         checks.due("19 greatest STEP", x.next(0), -6);
         // an ITEM that bends nothing lowers WORST by less than 1
         FlameBend y = new FlameBend();
-        wishFold(y, 30);
+        Checks.wishFold(y, 30);
         y.table(1, 0, 0);
         y.item(3, 1, false, false);
         checks.due("19 lowered by nothing", y.next(0), -6);
@@ -166,7 +159,7 @@ final class ItemTest {
 
     private void stepsDone() {
         FlameBend x = new FlameBend();
-        wishFold(x, 30);
+        Checks.wishFold(x, 30);
         checks.due("20 no ITEMS", x.steps(0), 0);
         checks.due("20 no ITEMS, WORST", x.steps(1), 120);
         x.item(3, 1, false, false);
@@ -179,7 +172,7 @@ final class ItemTest {
         x.set(3, 1);
         x.set(2, 0);
         checks.due("20 without AGAIN", x.steps(0), 3);
-        wishFold(x, 300);
+        Checks.wishFold(x, 300);
         checks.due("20 at most 20", x.steps(0), 20);
         checks.due("20 at most 20, WORST", x.steps(1), 400);
         for (int what : new int[] {-1, 2, LOW, HIGH}) {
@@ -222,7 +215,7 @@ final class ItemTest {
         for (int n = 0; n < 10; n++) {
             x.item(3, 1, false, false);
         }
-        wishFold(x, 100);
+        Checks.wishFold(x, 100);
         checks.due("18 all ten", x.chosen(0, 0), 1023);
         checks.due("18 nine, the least as bits", x.chosen(40, 0), 511);
         checks.due("18 five, the least as bits", x.chosen(200, 0), 31);
@@ -231,7 +224,7 @@ final class ItemTest {
     private void beyondTwelve() {
         FlameBend x = Checks.working("v41;v41;v41;v41;v41;v41;v41;v41;v41;v41;v41;v41");
         x.set(2, 0);
-        wishFold(x, 200);
+        Checks.wishFold(x, 200);
         x.item(3, 1, false, false);
         x.item(3, 2, false, false);
         checks.due("20 behind 12 PASSES", x.steps(0), 4);

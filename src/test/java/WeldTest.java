@@ -16,13 +16,6 @@ final class WeldTest {
         test.checks.end("WeldTest");
     }
 
-    /** Wishes that only a bend of so much at column 4 meets. */
-    private static void wishFold(FlameBend x, int v) {
-        for (int row = 0; row < 6; row++) {
-            x.wish(6 * row + 5, v);
-        }
-    }
-
     private void bestOrder(FlameBend x, int worst, int... numbers) {
         checks.due("31 WORST", x.order(-1), worst);
         for (int i = 0; i < numbers.length; i++) {
@@ -64,17 +57,17 @@ final class WeldTest {
         x.weld(3, 50);
         x.weld(3, 20);
         // a share of 100, 90, 80 percent each
-        wishFold(x, 100 + 45 + 16);
+        Checks.wishFold(x, 100 + 45 + 16);
         bestOrder(x, 0, 0, 1, 2);
-        wishFold(x, 80 + 45 + 20);
+        Checks.wishFold(x, 80 + 45 + 20);
         bestOrder(x, 0, 2, 1, 0);
-        wishFold(x, 90 + 50 + 16);
+        Checks.wishFold(x, 90 + 50 + 16);
         bestOrder(x, 0, 1, 0, 2);
         x.set(5, 30);
-        wishFold(x, 70 + 20 + 20);
+        Checks.wishFold(x, 70 + 20 + 20);
         bestOrder(x, 0, 2, 0, 1);
         Checks.take(x, "v45");
-        wishFold(x, 50 + 70 + 20 + 20);
+        Checks.wishFold(x, 50 + 70 + 20 + 20);
         bestOrder(x, 0, 2, 0, 1);
         checks.due("31 WORST of WORK stays", x.worst(), 440);
         checks.due("31 the WELDS take no PART", x.pass(0, 4), 100);
@@ -85,9 +78,9 @@ final class WeldTest {
         x.weld(0, 0);
         x.weld(3, -19);
         // 17.1 is cut to 17, towards 0
-        wishFold(x, -17);
+        Checks.wishFold(x, -17);
         bestOrder(x, 0, 0, 1);
-        wishFold(x, -19);
+        Checks.wishFold(x, -19);
         bestOrder(x, 0, 1, 0);
     }
 
@@ -143,12 +136,12 @@ final class WeldTest {
             x.weld(3, pull);
         }
         // the greatest first bends most, the least first bends least
-        wishFold(x, 100000);
+        Checks.wishFold(x, 100000);
         checks.due("31 seven", x.order(-1), 4 * (100000 - 500 - 288 - 128 - 56 - 24 - 10 - 4));
         for (int i = 0; i < 7; i++) {
             checks.due("31 seven, at " + i, x.order(i), 6 - i);
         }
-        wishFold(x, -100000);
+        Checks.wishFold(x, -100000);
         checks.due("31 seven", x.order(-1), 4 * (100000 + 10 + 18 + 32 + 56 + 96 + 160 + 200));
         for (int i = 0; i < 7; i++) {
             checks.due("31 seven, at " + i, x.order(i), i);
@@ -157,7 +150,7 @@ final class WeldTest {
         // from the fifth on nothing is bent: 100, 70, 40 and 10 percent of the least; the rest by numbers
         checks.due("31 seven, stiff", x.order(-1), 4 * (100000 + 10 + 14 + 16 + 8));
         checks.due("31 seven, stiff", x.order(6), 6);
-        wishFold(x, 100000);
+        Checks.wishFold(x, 100000);
         checks.due("31 seven, stiff", x.order(-1), 4 * (100000 - 500 - 224 - 64 - 8));
         int[] want = {6, 5, 4, 3, 0, 1, 2};
         for (int i = 0; i < 7; i++) {
