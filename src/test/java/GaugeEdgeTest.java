@@ -15,6 +15,7 @@ final class GaugeEdgeTest {
         test.oddState();
         test.oddNumbers();
         test.oddNear();
+        test.oddByWork();
         test.oddAll();
         test.bendReadRefusals();
         test.bendReadRows();
@@ -180,6 +181,31 @@ final class GaugeEdgeTest {
         edges.due("odd(0)", 32);
     }
 
+    /** BENDS of 10 at column 2 and 19 at row 3: hung they have 5 times 10 less 90 at CORNER 3, -114 at 18. */
+    private void oddByWork() {
+        edges.anew("24 FLAT as that of the shape of THE WORK", "say v21;h32", "take()", "read(0, 0)", "read(5, 30)",
+            "read(30, 38)", "read(3, 10)", "read(18, 0)", "read(21, 10)");
+        edges.due("flat(3)", -40);
+        edges.due("flat(18)", -114);
+        edges.due("flat(21)", -154);
+        edges.due("odd(-1)", 0);
+        edges.also("24 they differ by 5, by more than 4 and not than 5");
+        edges.due("read(21, 11)", 0);
+        edges.due("odd(-1)", 1);
+        edges.due("odd(0)", 21);
+        edges.due("set(4, 4)", 0);
+        edges.due("odd(-1)", 1);
+        edges.due("set(4, 5)", 4);
+        edges.due("odd(-1)", 0);
+        edges.also("24 the shape of no WORK");
+        edges.due("set(4, 0)", 5);
+        edges.due("strike(2)", 0);
+        edges.due("odd(-1)", 3);
+        edges.due("odd(0)", 3);
+        edges.due("odd(1)", 18);
+        edges.due("odd(2)", 21);
+    }
+
     private void oddAll() {
         edges.anew("24 all that can be ODD");
         for (int corner = 0; corner < 36; corner++) {
@@ -318,6 +344,38 @@ final class GaugeEdgeTest {
         edges.due("say v15", 3);
         edges.due("take()", 1);
         edges.dueEach("skill(%)", new int[] {0, 1}, STATE);
+        edges.anew("26 a LINE without PASSES does not count", threeEach);
+        edges.due("say v15", 3);
+        edges.due("take()", 1);
+        edges.due("read(3, 100)", 0);
+        edges.due("bendRead(1, 0)", 100);
+        edges.due("skill(0)", 3);
+        edges.due("skill(1)", 50);
+        edges.also("26 a LINE with PASSES that is not READ does not count");
+        edges.due("forget(3)", 1);
+        edges.due("say v49", 3);
+        edges.due("take()", 2);
+        edges.due("skill(0)", 3);
+        edges.due("skill(1)", 50);
+        edges.anew("26 BENDS READ of halves and thirds", "say v11;h11", "take()", "set(0, 0)", "read(0, 0)", "read(1, 0)",
+            "read(2, 1)", "read(6, 0)", "read(7, 0)", "read(8, 0)", "read(12, 0)", "read(13, 0)");
+        // LINE 0 in two rows: 1 by 2; LINE 4 in two columns: 0 by 1
+        edges.due("skill(0)", 1);
+        edges.due("skill(1)", 40);
+        edges.due("read(14, 1)", 1);
+        // LINE 0 in three rows: 2 by 3; LINE 4 in three columns: 1 less 0 and 1: 2 by 3
+        edges.due("skill(0)", 1);
+        edges.due("skill(1)", 15);
+        edges.due("forget(6)", 1);
+        // LINE 0 in two rows: 2 by 2; LINE 4 in two columns: 2 by 2
+        edges.due("skill(0)", 1);
+        edges.due("skill(1)", 10);
+        edges.due("read(9, 0)", 1);
+        edges.due("read(3, 0)", 1);
+        edges.due("read(15, 5)", 1);
+        // LINE 4 now in three columns: 0, 2 and 5: 7 by 3
+        edges.due("skill(0)", 1);
+        edges.due("skill(1)", 6);
         edges.anew("26 a LINE whose BENDS are 0 counts with its BEND READ", threeEach);
         edges.due("table(5, 0, 0)", 50);
         edges.due("say v15;v21", 7);
@@ -446,6 +504,15 @@ final class GaugeEdgeTest {
         edges.due("widest()", 1);
         edges.also("29 the first less by 1: the second");
         edges.due("attempt(1, 0, 6)", 1);
+        edges.due("widest()", 2);
+        edges.anew("29 upper less lower end: high up, but narrower by 1");
+        for (int strength = 1; strength <= 9; strength++) {
+            edges.due("attempt(" + strength + ", " + (strength == 1 ? "800, 50)" : "0, 10)"), 1);
+        }
+        edges.due("widest()", 1);
+        edges.due("attempt(1, 755, 5)", 1);
+        edges.due("widest()", 1);
+        edges.due("attempt(1, 1000, 249)", 1);
         edges.due("widest()", 2);
     }
 }

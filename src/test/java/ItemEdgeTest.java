@@ -8,6 +8,7 @@ final class ItemEdgeTest {
     public static void main(String[] args) {
         ItemEdgeTest test = new ItemEdgeTest();
         test.itemNumbers();
+        test.itemKinds();
         test.itemRefusals();
         test.chosenNumbers();
         test.chosenWithoutItems();
@@ -18,6 +19,7 @@ final class ItemEdgeTest {
         test.nextNone();
         test.nextStep();
         test.nextTies();
+        test.betterByOne();
         test.stepsNumbers();
         test.stepsAtMostTwenty();
         test.stepsNone();
@@ -46,6 +48,18 @@ final class ItemEdgeTest {
         edges.dueEach("item(%, 10, true, true)", new int[] {-1, 8, LOW, HIGH}, -1);
         edges.dueEach("item(0, %, false, false)", new int[] {0, 10, LOW, HIGH}, -2);
         edges.due("told(2)", 10);
+    }
+
+    /** Each of water and back, or not: 20 and 25 at column 4, either way. */
+    private void itemKinds() {
+        int[] bends = {20, -20, 25, -25};
+        for (int kind = 0; kind < 4; kind++) {
+            edges.anew("17 water and back", "item(3, 2, " + (kind > 1) + ", " + (kind % 2 == 1) + ")");
+            fold(bends[kind]);
+            edges.due("chosen(0, 0)", 1);
+            edges.due("next(1)", 0);
+            edges.due("steps(1)", 0);
+        }
     }
 
     private void itemRefusals() {
@@ -126,6 +140,30 @@ final class ItemEdgeTest {
         edges.due("chosen(79, 0)", 3);
         edges.due("chosen(40, 0)", 3);
         edges.due("chosen(39, 0)", 7);
+        edges.anew("18 the fewest, though a set of lesser bits has a less WORST", "item(3, 1, false, false)",
+            "item(3, 2, false, false)", "item(3, 4, false, false)");
+        fold(28);
+        // ITEM 0 misses by 18, 1 by 8, 2 by 12, the first two (10 and 14) by 4
+        edges.due("chosen(47, 0)", 2);
+        edges.due("chosen(31, 0)", 3);
+        edges.due("chosen(31, 1)", 16);
+        edges.due("item(3, 3, false, false)", 3);
+        edges.due("chosen(31, 0)", 8);
+        edges.due("chosen(31, 1)", 8);
+        edges.anew("18 the fewest, though its bits and its WORST are greater", "item(3, 1, false, false)",
+            "item(3, 1, false, false)", "item(3, 3, false, false)");
+        fold(18);
+        // the first two (10 and 7) miss by 1, ITEM 0 by 8, ITEM 2 by 12: of one ITEM the least WORST
+        edges.due("chosen(48, 0)", 1);
+        edges.due("table(1, 0, 6)", 10);
+        fold(12);
+        // now 6 and 4 miss by 2, ITEM 0 by 6, ITEM 2 by 18
+        edges.due("chosen(23, 0)", 3);
+        edges.due("table(3, 0, 17)", 30);
+        // and ITEM 2 by 5
+        edges.due("chosen(23, 0)", 4);
+        edges.due("chosen(23, 1)", 20);
+        edges.due("chosen(19, 0)", 3);
         edges.anew("18 the least WORST ahead of the least as bits", "item(3, 1, false, false)", "item(3, 2, false, false)",
             "item(3, 3, false, false)");
         fold(30);
@@ -217,6 +255,26 @@ final class ItemEdgeTest {
         edges.due("set(3, 1)", 100000);
         edges.due("set(3, 100001)", -2);
         edges.due("next(0)", 0);
+    }
+
+    /** BENDS of 1 at column 1 and 2 at column 4 miss by 9; with 1 there by 5, with 0 by 4, with -1 by 3. */
+    private void betterByOne() {
+        edges.anew("19 the least WORST, less by just 1", "say v11;v42", "take()", "set(2, 0)", "table(1, 0, 1)",
+            "table(2, 0, 2)", "item(3, 1, false, true)", "item(3, 2, false, true)");
+        edges.due("worst()", 9);
+        edges.due("next(0)", 1);
+        edges.due("next(1)", 4);
+        edges.also("18 the least WORST, less by just 1");
+        edges.due("chosen(8, 0)", 2);
+        edges.due("chosen(8, 1)", 4);
+        edges.due("chosen(3, 0)", 3);
+        edges.due("chosen(2, 0)", -5);
+        edges.also("20 WORST goes down by 5 and by 1");
+        edges.due("steps(0)", 2);
+        edges.due("steps(1)", 3);
+        edges.due("set(3, 2)", 1);
+        edges.due("steps(0)", 1);
+        edges.due("steps(1)", 4);
     }
 
     private void nextTies() {

@@ -14,6 +14,8 @@ final class WeldEdgeTest {
         test.stiffNotBelowZero();
         test.cut();
         test.ties();
+        test.betterByOne();
+        test.followsChanges();
         test.ends();
         test.checks.end("WeldEdgeTest");
     }
@@ -173,10 +175,43 @@ final class WeldEdgeTest {
         bestOrder(4, 0, 1);
         fold(58);
         bestOrder(0, 1, 0);
+        edges.anew("31 the first and the last of all orders", "weld(3, 10)", "weld(3, 20)", "weld(3, 40)", "weld(3, 80)",
+            "weld(3, 160)", "weld(3, 320)", "weld(3, 500)");
+        fold(-100000);
+        bestOrder(4 * (100000 + 10 + 18 + 32 + 56 + 96 + 160 + 200), 0, 1, 2, 3, 4, 5, 6);
+        fold(100000);
+        bestOrder(4 * (100000 - 500 - 288 - 128 - 56 - 24 - 10 - 4), 6, 5, 4, 3, 2, 1, 0);
         edges.anew("31 the second number decides", "weld(0, 0)", "weld(3, 10)", "weld(3, 20)");
         // behind the first: 9 and 16, or 18 and 8
         fold(26);
         bestOrder(0, 0, 2, 1);
+    }
+
+    /** A BEND of 1 at column 1 misses by 4, with 1 at column 4 by 5. */
+    private void betterByOne() {
+        edges.anew("31 the least WORST, less by just 1", "say v11", "take()", "table(1, 0, 1)", "weld(3, 1)", "weld(7, 0)");
+        bestOrder(4, 1, 0);
+    }
+
+    /** What was found before an order was asked for holds no more when anything that it comes of changes. */
+    private void followsChanges() {
+        edges.anew("31 behind each change", "weld(3, 100)", "say v41", "take()");
+        bestOrder(440, 0);
+        edges.due("table(1, 0, 20)", 10);
+        bestOrder(480, 0);
+        edges.due("wish(4, 10)", 0);
+        bestOrder(530, 0);
+        edges.due("strike(1)", 0);
+        bestOrder(450, 0);
+        edges.due("weld(3, -100)", 1);
+        // -100 and 90 leave -10, which is 10 the other way from the WISH
+        bestOrder(40, 1, 0);
+        edges.due("set(5, 0)", 10);
+        bestOrder(50, 0, 1);
+        edges.due("say v41", 3);
+        bestOrder(50, 0, 1);
+        edges.due("take()", 1);
+        bestOrder(130, 0, 1);
     }
 
     private void ends() {

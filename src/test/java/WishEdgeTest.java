@@ -94,6 +94,15 @@ final class WishEdgeTest {
             "set(2, 0)", "table(1, 0, 1000)");
         // 12000 at column 2: 5 times 0 less 2 times 36000
         edges.due("worst()", 72000);
+        edges.anew("14 standing and lying LINES together", "say v21;h31", "take()", "set(0, 0)");
+        // -60 at column 2, -60 at row 3
+        edges.due("miss(2)", -60);
+        edges.due("miss(18)", -60);
+        edges.due("miss(20)", -120);
+        edges.due("worst()", 120);
+        edges.due("wish(20, -24)", 0);
+        edges.due("miss(20)", 0);
+        edges.due("worst()", 100);
         edges.anew("14 WORK that was struck misses nothing", "say v21", "take()", "strike(1)");
         edges.due("worst()", 0);
     }
