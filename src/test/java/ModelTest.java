@@ -3,7 +3,10 @@ import java.util.Random;
 /** All promises: runs of calls, drawn with fixed seeds, answered by the class as by the slow model. */
 final class ModelTest {
     private static final int RUNS = 600;
-    private static final int CALLS = 250;
+    /** The document promises nothing beyond these. */
+    private static final int CALLS = 512;
+    /** As many calls as one draw can need. */
+    private static final int CALLS_OF_A_DRAW = 60;
     private static final int[] FAR = {Integer.MIN_VALUE, Integer.MAX_VALUE, -1, 1 << 16, -65536, 256};
 
     private final Random random;
@@ -11,12 +14,16 @@ final class ModelTest {
     private final SlowModel model = new SlowModel();
     /** Heights of a run are drawn up to this, so that some runs have close ones. */
     private final int reach;
+    /** One part is called more often in a run, so that it fills up; in some runs none is. */
+    private final int favoured;
+    private int calls = 0;
     private String call = "";
 
     private ModelTest(long seed) {
         random = new Random(seed);
         int[] reaches = {3, 60, 1500, 100000};
         reach = reaches[random.nextInt(reaches.length)];
+        favoured = random.nextInt(7);
     }
 
     public static void main(String[] args) {
@@ -25,12 +32,12 @@ final class ModelTest {
         int wrong = 0;
         for (long seed = first; seed < first + runs && wrong < 20; seed++) {
             ModelTest run = new ModelTest(seed);
-            for (int n = 0; n < CALLS; n++) {
+            while (run.calls + CALLS_OF_A_DRAW <= CALLS) {
                 long[] answers = run.draw();
                 if (answers[0] != answers[1]) {
                     wrong++;
-                    System.out.println("seed " + seed + ", call " + n + ": " + run.call + " answered " + answers[0]
-                        + ", due is " + answers[1]);
+                    System.out.println("seed " + seed + ", call " + run.calls + ": " + run.call + " answered "
+                        + answers[0] + ", due is " + answers[1]);
                     break;
                 }
             }
@@ -63,10 +70,11 @@ final class ModelTest {
     }
 
     private int someHeight() {
-        return random.nextInt(4) == 0 ? near(-100000, 100000) : near(-reach, reach);
+        return random.nextInt(30) == 0 ? near(-100000, 100000) : near(-reach, reach);
     }
 
     private long[] pair(String name, long got, long want, Object... with) {
+        calls++;
         StringBuilder text = new StringBuilder(name).append('(');
         for (int i = 0; i < with.length; i++) {
             text.append(i == 0 ? "" : ", ").append(with[i]);
@@ -76,23 +84,35 @@ final class ModelTest {
     }
 
     private long[] draw() {
+        // Runs of some kind begin with a WISH that lines can nearly make, so that ITEMS serve.
+        if (calls == 0 && random.nextBoolean()) {
+            return wishShape();
+        }
+        int part = favoured < 6 && random.nextInt(3) == 0 ? favoured : somePart();
+        switch (part) {
+            case 0:
+                return orders();
+            case 1:
+                return workCall();
+            case 2:
+                return wishCall();
+            case 3:
+                return itemCall();
+            case 4:
+                return gaugeCall();
+            default:
+                return lateCall();
+        }
+    }
+
+    private int somePart() {
+        int[] upTo = {8, 34, 50, 63, 87, 100};
         int kind = random.nextInt(100);
-        if (kind < 14) {
-            return orders();
+        int part = 0;
+        while (kind >= upTo[part]) {
+            part++;
         }
-        if (kind < 40) {
-            return workCall();
-        }
-        if (kind < 56) {
-            return wishCall();
-        }
-        if (kind < 66) {
-            return itemCall();
-        }
-        if (kind < 92) {
-            return gaugeCall();
-        }
-        return lateCall();
+        return part;
     }
 
     private String somePass() {
@@ -117,14 +137,23 @@ final class ModelTest {
         } else if (kind == 2) {
             text.deleteCharAt(at);
         }
-        for (int i = 0; i < text.length(); i++) {
-            int got = x.say(text.charAt(i));
-            int want = model.say(text.charAt(i));
-            if (got != want) {
-                return pair("say", got, want, text.charAt(i));
+        // What was left by a FAULT would be one to all that comes behind it.
+        if (model.told(0) > 0 && random.nextInt(6) > 0) {
+            long[] wiped = pair("wipe", x.wipe(), model.wipe());
+            if (wiped[0] != wiped[1]) {
+                return wiped;
             }
-            if (x.fault() != model.fault()) {
-                return pair("fault", x.fault(), model.fault());
+        }
+        for (int i = 0; i < text.length(); i++) {
+            long[] said = pair("say", x.say(text.charAt(i)), model.say(text.charAt(i)), text.charAt(i));
+            if (said[0] != said[1]) {
+                return said;
+            }
+            if (random.nextInt(4) == 0) {
+                long[] fault = pair("fault", x.fault(), model.fault());
+                if (fault[0] != fault[1]) {
+                    return fault;
+                }
             }
         }
         return pair("take", x.take(), model.take());
@@ -143,12 +172,12 @@ final class ModelTest {
             case 3:
                 return pair("take", x.take(), model.take());
             case 4: {
-                int n = near(0, random.nextInt(6) == 0 ? 12 : 3);
+                int n = near(0, random.nextInt(6) == 0 ? 12 : 2);
                 return pair("strike", x.strike(n), model.strike(n), n);
             }
             case 5:
             case 6: {
-                int i = near(0, 11);
+                int i = near(0, Math.max(0, model.told(1) - 1));
                 int what = near(0, 6);
                 return pair("pass", x.pass(i, what), model.pass(i, what), i, what);
             }
@@ -176,15 +205,31 @@ final class ModelTest {
         }
     }
 
+    private long[] wishAt(int corner, int v) {
+        return pair("wish", x.wish(corner, v), model.wish(corner, v), corner, v);
+    }
+
+    private long[] wishShape() {
+        int[] bends = new int[8];
+        for (int line = 0; line < 8; line++) {
+            bends[line] = random.nextInt(3) == 0 ? 0 : 5 * (random.nextInt(37) - 18);
+        }
+        for (int corner = 0; corner < 35; corner++) {
+            long[] wished = wishAt(corner, SlowModel.height(bends, corner) + random.nextInt(3));
+            if (wished[0] != wished[1]) {
+                return wished;
+            }
+        }
+        return wishAt(35, SlowModel.height(bends, 35));
+    }
+
     private long[] wishCall() {
         int corner = corner();
         switch (random.nextInt(8)) {
             case 0:
             case 1:
-            case 2: {
-                int v = someHeight();
-                return pair("wish", x.wish(corner, v), model.wish(corner, v), corner, v);
-            }
+            case 2:
+                return wishAt(corner, someHeight());
             case 3:
             case 4:
                 return pair("miss", x.miss(corner), model.miss(corner), corner);
@@ -212,7 +257,8 @@ final class ModelTest {
             case 3:
             case 4: {
                 int now = model.worst();
-                int most = random.nextInt(8) == 0 ? near(0, 100000000) : now - random.nextInt(now / 2 + 1);
+                int below = now - random.nextInt(now / (random.nextBoolean() ? 2 : 15) + 1);
+                int most = random.nextInt(8) == 0 ? near(0, 100000000) : below;
                 int what = near(0, 1);
                 return pair("chosen", x.chosen(most, what), model.chosen(most, what), most, what);
             }
@@ -228,6 +274,35 @@ final class ModelTest {
         }
     }
 
+    private long[] readAt(int corner) {
+        int v = random.nextBoolean() ? model.height(corner) : someHeight();
+        return pair("read", x.read(corner, v), model.read(corner, v), corner, v);
+    }
+
+    /** The three CORNERS by which plates are hung. */
+    private long[] readHooks() {
+        for (int hook : new int[] {0, 5}) {
+            long[] read = readAt(hook);
+            if (read[0] != read[1]) {
+                return read;
+            }
+        }
+        return readAt(30);
+    }
+
+    /** All three CORNERS at a LINE and beside it, in a row of the plate. */
+    private long[] readAcross(int line, int row) {
+        int side = line < 4 ? 1 : 6;
+        int middle = (line % 4 + 1) * side + row * (7 - side);
+        for (int corner = middle - side; corner < middle + side; corner += side) {
+            long[] read = readAt(corner);
+            if (read[0] != read[1]) {
+                return read;
+            }
+        }
+        return readAt(middle + side);
+    }
+
     private long[] gaugeCall() {
         int corner = corner();
         int line = near(0, 7);
@@ -236,15 +311,17 @@ final class ModelTest {
         switch (random.nextInt(18)) {
             case 0:
             case 1:
+                return readAt(corner);
             case 2:
+                return readHooks();
             case 3:
             case 4:
-            case 5: {
-                int v = random.nextBoolean() ? model.height(corner) : someHeight();
-                return pair("read", x.read(corner, v), model.read(corner, v), corner, v);
+            case 5:
+                return readAcross(random.nextInt(8), random.nextInt(6));
+            case 6: {
+                int some = near(0, 35);
+                return pair("forget", x.forget(some), model.forget(some), some);
             }
-            case 6:
-                return pair("forget", x.forget(corner), model.forget(corner), corner);
             case 7:
                 return pair("flat", x.flat(corner), model.flat(corner), corner);
             case 8:
@@ -283,13 +360,13 @@ final class ModelTest {
             }
             case 3:
             case 4: {
-                int i = near(-1, 6);
+                int i = near(-1, model.told(4));
                 return pair("order", x.order(i), model.order(i), i);
             }
             case 5:
             case 6: {
                 int n = near(1, 3);
-                int i = near(-1, 11);
+                int i = near(-1, model.told(1));
                 return pair("shared", x.shared(n, i), model.shared(n, i), n, i);
             }
             default: {

@@ -169,7 +169,7 @@ final class SlowModel {
         return in(line, 0, 7) ? bends(work)[line] : -2000000001;
     }
 
-    private static int height(int[] bends, int corner) {
+    static int height(int[] bends, int corner) {
         int height = 0;
         for (int line = 0; line < 8; line++) {
             int beyond = (line < 4 ? corner % 6 : corner / 6) - (line % 4 + 1);

@@ -12,6 +12,7 @@ final class SmithEdgeTest {
         test.ties();
         test.fullWork();
         test.followsWork();
+        test.fewerSmithsLater();
         test.toldNumbers();
         test.toldEmptyAndFull();
         test.toldSettings();
@@ -114,6 +115,21 @@ final class SmithEdgeTest {
         edges.due("table(5, 0, 0)", 50);
         edges.due("set(2, 100)", 30);
         sharing(2, 5, 0, 1);
+    }
+
+    private void fewerSmithsLater() {
+        edges.anew("32 among fewer SMITHS behind more", "say v15;v15;v15", "take()");
+        sharing(3, 5, 0, 1, 2);
+        sharing(1, 15, 0, 0, 0);
+        sharing(2, 10, 0, 0, 1);
+        sharing(1, 15, 0, 0, 0);
+        sharing(3, 5, 0, 1, 2);
+        edges.also("32 other WORK in the place of what was struck");
+        edges.due("strike(3)", 0);
+        edges.due("say v19;v11w", 8);
+        edges.due("take()", 2);
+        sharing(3, 12, 0, 1);
+        sharing(1, 13, 0, 0);
     }
 
     private void toldNumbers() {
